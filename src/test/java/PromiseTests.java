@@ -102,6 +102,10 @@ public final class PromiseTests {
         fresh("5").refuse("block;goto a;", 1, 11).refuse("block;goto;", 1, 10).refuse("block;branch 0 0 0;", 1, 13);
         fresh("5").refuse("block;branch a 0;", 1, 16).refuse("block;branch a 0 0 0;", 1, 19);
         fresh("5").refuse("block;stop 0;", 1, 11).refuse("block;goto 0 stop;", 1, 13);
+        // Words that differ from the right ones in one letter, or go on.
+        fresh("5").refuse("clock;stop;", 1, 0).refuse("block;get a 1;stop;", 1, 6).refuse("block;stopz;", 1, 6);
+        fresh("5").refuse("block;set az 1;stop;", 1, 10).refuse("block;calc a b plux c;stop;", 1, 15);
+        fresh("5").refuse("block;goto 0a;", 1, 12).refuse("block;branch a0 0 ;block;goto9;", 4, 29);
         // Bytes that belong to no token.
         fresh("5").refuse("Block;stop;", 1, 0).refuse("blocK;stop;", 1, 0).refuse("block;set a -1;stop;", 1, 12);
         fresh("5").refuse("block;stop;\t", 1, 11).refuse("block;stop;\0", 1, 11).refuse("block;st\u00e9op;", 1, 6);
@@ -126,6 +130,7 @@ public final class PromiseTests {
         fresh("5").refuse("block;goto 1;", 4, 11).refuse("block;branch a 0 1;", 4, 17);
         fresh("5").refuse("block;branch a 1 2;", 4, 15).refuse("block;goto 2;block;goto 3;", 4, 11);
         fresh("5").refuse("block;goto 1;block;goto 0011;block;goto 4;", 4, 24);
+        fresh("4").load(stops(11) + "block;branch a 11 11;").due("successor(11,0)", 11).due("successor(11,1)", 11);
         fresh("5").refuse(stops(11) + "block;goto 12;", 2, 132).load(stops(11) + "block;goto 11;");
         // A good text clears the report; nothing else does.
         Calls calls = fresh("5").refuse("block;goto 1;", 4, 11).due("removeDead()", 3).due("undo()", 0);
@@ -247,6 +252,7 @@ public final class PromiseTests {
         fresh("26").load("block;goto 1;block;branch a 0 1;").due("pressure()", 1);
         String all = "block;calc a a plus b;calc a c plus d;calc a e plus f;calc a g plus h;branch a 0 0;";
         fresh("26").load(all).due("pressure()", 8);
+        fresh("26").load("block;calc a a plus b;stop;").due("pressure()", 2);
         // The largest set stands before an exit, and in an unreachable block.
         fresh("26").load("block;stop;block;set b 1;set a 1;branch a 2 2;block;show b;show c;stop;").due("pressure()", 3);
         Calls calls = graph("27").due("interfere(0,1)", true).due("interfere(1,0)", true).due("interfere(0,0)", false);
@@ -305,6 +311,10 @@ public final class PromiseTests {
         next.due("immediateDominator(4)", 2).due("immediateDominator(3)", 2).due("immediateDominator(5)", 1);
         next.due("immediateDominator(6)", -1).dueBounds("immediateDominator(7)").dueBounds("immediateDominator(-1)");
         fresh("33").load("block;branch a 1 2;block;goto 3;block;goto 3;block;goto 0;").due("immediateDominator(3)", 0);
+        // The numbers of the blocks run against the edges.
+        fresh("33").load("block;goto 5;block;stop;block;goto 1;block;goto 2;block;branch a 3 2;block;goto 4;")
+            .due("immediateDominator(1)", 2).due("immediateDominator(2)", 4).due("immediateDominator(3)", 4)
+            .due("immediateDominator(4)", 5).due("dominates(5,1)", true).due("dominates(3,1)", false);
         Calls common = fresh("34").load(LOOPS).due("commonDominator(3,4)", 2).due("commonDominator(4,5)", 1);
         common.due("commonDominator(3,3)", 3).due("commonDominator(2,3)", 2).due("commonDominator(0,5)", 0);
         common.due("commonDominator(6,1)", -1).due("commonDominator(1,6)", -1).due("commonDominator(6,6)", -1);
@@ -549,6 +559,15 @@ public final class PromiseTests {
         dueAll(calls, asked, cut);
         calls.due("restoreSnapshot(0)", null);
         dueAll(calls, asked, first);
+        calls.due("deadDefinitions()", 2).due("insertSet(3,0,2,5)", 6).due("deadDefinitions()", 3);
+        calls.due("expressionCount()", 2).due("insertCalc(0,0,0,1,2,2)", 0).due("expressionCount()", 3);
+        calls.due("deadDefinitions()", 4).due("removeInstruction(7)", 9).due("deadDefinitions()", 3);
+        calls.due("removeDead()", 4).due("deadDefinitions()", 0).due("expressionCount()", 2);
+        calls.due("undo()", 3).due("expressionCount()", 3).due("deadDefinitions()", 3);
+        fresh("changes").load("block;set a 1;calc b a plus a;show b;stop;").due("expressionCount()", 1)
+            .due("usesOf(0)", 1).due("foldConstants()", 1).due("expressionCount()", 0).due("usesOf(0)", 0)
+            .due("undo()", 0).due("expressionCount()", 1).due("usesOf(0)", 1);
+        fresh("changes").due("immediateDominator(3)", 1).due("setBranch(0,0,1,3)", 4).due("immediateDominator(3)", 0);
     }
 
     private static void dueAll(Calls calls, List<String> asked, Object[] wanted) {
