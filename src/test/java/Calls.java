@@ -42,8 +42,8 @@ final class Calls {
         }
     }
 
-    /** Calls as written, as in "insertSet(0, 1, 2, 3)", and compares the answer. */
-    Calls due(String call, Object want) {
+    /** Calls as written, as in "insertSet(0, 1, 2, 3)". */
+    Object answer(String call) {
         int open = call.indexOf('(');
         String inside = call.substring(open + 1, call.length() - 1).trim();
         String[] parts = inside.isEmpty() ? new String[0] : inside.split(",");
@@ -51,7 +51,20 @@ final class Calls {
         for (int i = 0; i < parts.length; i++) {
             arguments[i] = Integer.parseInt(parts[i].trim());
         }
-        check(title + ": " + call, answer(lab, call.substring(0, open), arguments), want);
+        return answer(lab, call.substring(0, open), arguments);
+    }
+
+    /** Calls as written and compares the answer. */
+    Calls due(String call, Object want) {
+        check(title + ": " + call, answer(call), want);
+        return this;
+    }
+
+    /** The same answer for each of the values in the place of the % sign. */
+    Calls dueEach(String call, Object want, int... values) {
+        for (int value : values) {
+            due(call.replace("%", Integer.toString(value)), want);
+        }
         return this;
     }
 
@@ -69,6 +82,27 @@ final class Calls {
 
     Calls dueNoSuch(String call) {
         return due(call, "throws.NoSuchElementException");
+    }
+
+    Calls accepts(String call) {
+        check(title + ": " + call + " is refused", String.valueOf(answer(call)).startsWith("throws."), false);
+        return this;
+    }
+
+    /** Calls with each of the values in the place of the % sign, and lets none of them throw. */
+    Calls accepts(String call, int... values) {
+        for (int value : values) {
+            accepts(call.replace("%", Integer.toString(value)));
+        }
+        return this;
+    }
+
+    /** Calls with each of the values in the place of the % sign; every call must throw this exception. */
+    Calls refuses(String exception, String call, int... values) {
+        for (int value : values) {
+            due(call.replace("%", Integer.toString(value)), "throws." + exception);
+        }
+        return this;
     }
 
     static void check(String what, Object got, Object want) {
@@ -110,6 +144,11 @@ final class Calls {
         return this;
     }
 
+    /** Refuses a text, in which a ^ stands before the first byte of the wrong token, or at the end. */
+    Calls refuseAt(String marked, int code) {
+        return refuse(marked.replace("^", ""), code, marked.indexOf('^'));
+    }
+
     /** The block as writeBlock writes it. */
     String written(int block) {
         int length = lab.writeBlock(block);
@@ -124,6 +163,72 @@ final class Calls {
     Calls dueBlock(int block, String want) {
         check(title + ": block " + block, written(block), want);
         return this;
+    }
+
+    /** The whole program, as its blocks. */
+    Calls dueProgram(String... wanted) {
+        check(title + ": blocks", lab.blockCount(), wanted.length);
+        for (int b = 0; b < wanted.length && b < lab.blockCount(); b++) {
+            dueBlock(b, wanted[b]);
+        }
+        return this;
+    }
+
+    private String program() {
+        StringBuilder text = new StringBuilder();
+        for (int b = 0; b < lab.blockCount(); b++) {
+            text.append("block;").append(written(b));
+        }
+        return text.toString();
+    }
+
+    private void answersOf(StringBuilder text, String names, String arguments) {
+        for (String name : names.split(" ")) {
+            String call = name + arguments;
+            text.append(call).append('=').append(answer(call)).append(' ');
+        }
+    }
+
+    /** What the analyses and a run answer, for every block, instruction and variable. */
+    String answers() {
+        StringBuilder text = new StringBuilder();
+        answersOf(text, "deadDefinitions pressure expressionCount redundantCount backEdges decidedBranches deadShare meanLive "
+            + "auditDifference", "()");
+        answersOf(text, "runSteps lastShown", "(1000)");
+        for (int b = 0; b < lab.blockCount(); b++) {
+            answersOf(text, "instructionsIn predecessors isReachable distanceTo availableAt immediateDominator loopSize "
+                + "loopDepth", "(" + b + ")");
+            answersOf(text, "visits", "(" + b + ",1000)");
+            for (int v = 0; v < 8; v++) {
+                answersOf(text, "reachingDefinitions isInitialReaching isLiveIn isLiveOut constantAt", "(" + b + "," + v + ")");
+            }
+            for (int other = 0; other < lab.blockCount(); other++) {
+                answersOf(text, "dominates commonDominator", "(" + b + "," + other + ")");
+            }
+        }
+        for (int i = 0; i < lab.instructionCount(); i++) {
+            answersOf(text, "usesOf liveBefore isDead isRedundant constantOf", "(" + i + ")");
+            answersOf(text, "onlyDefinition", "(" + i + ",0)");
+        }
+        return text.toString();
+    }
+
+    /** All that can be found out about the object; it is used up by that. */
+    String everything() {
+        StringBuilder text = new StringBuilder("output ");
+        for (int i = 0; lab.outputByte(i) != -1; i++) {
+            text.append((char) lab.outputByte(i));
+        }
+        text.append(" error ").append(lab.errorCode()).append(' ').append(lab.errorPosition());
+        text.append(" program ").append(program());
+        for (Object left = answer("undo()"); left instanceof Integer; left = answer("undo()")) {
+            text.append(" undone, left ").append(left).append(' ').append(program());
+        }
+        for (int number = 0; number < 2; number++) {
+            text.append(" snapshot ").append(answer("restoreSnapshot(" + number + ")")).append(' ').append(program());
+        }
+        text.append(" text ").append(answer("appendText(538976288)")).append(' ').append(lab.loadProgram());
+        return text.append(' ').append(lab.errorPosition()).append(' ').append(program()).toString();
     }
 
     static void finish(String name) {

@@ -570,6 +570,57 @@ public final class PromiseTests {
         fresh("changes").due("immediateDominator(3)", 1).due("setBranch(0,0,1,3)", 4).due("immediateDominator(3)", 0);
     }
 
+    private static final String[] PROGRAMS = {"block;stop;",
+        "block;set a 1;branch a 1 2;block;calc c a plus b;move d c;goto 0;block;calc c a plus b;show c;branch d 2 3;"
+        + "block;show e;stop;",
+        "block;goto 2;block;calc d a plus b;stop;block;calc c a plus b;goto 1;",
+        "block;goto 1;block;calc e d times f;set a 2;set b 3;branch a 0 1;",
+        "block;set b 1;set a 2;goto 1;block;calc h a minus b;show h;goto 1;",
+        "block;goto 0;block;move b a;move a b;goto 2;block;branch b 1 3;block;calc a g plus h;stop;",
+        "block;show a;show b;show c;branch d 1 1;block;branch e 0 1;",
+        "block;set c 7;goto 1;block;calc a b plus c;calc d b plus c;branch d 1 2;block;show a;goto 2;"};
+
+    /** Asks each analysis once, so that an answer kept too long would be seen. */
+    private static Calls asked(Calls calls) {
+        return calls.accepts("isReachable(0)").accepts("reachingDefinitions(0,0)").accepts("pressure()")
+            .accepts("redundantCount()").accepts("constantAt(0,0)").accepts("auditDifference()");
+    }
+
+    /** No answer depends on the programs that the object held before. */
+    private static void programsLeaveNothingBehind() {
+        for (String last : PROGRAMS) {
+            String want = new Calls("new").load(last).answers();
+            for (String first : PROGRAMS) {
+                Calls.check("[" + last + "] loaded after [" + first + "]", asked(fresh("old").load(first)).load(last).answers(),
+                    want);
+                Calls back = asked(fresh("old").load(last).due("saveSnapshot(0)", null).load(first));
+                Calls.check("[" + last + "] restored after [" + first + "]",
+                    back.due("restoreSnapshot(0)", null).answers(), want);
+            }
+            for (String change : new String[] {"insertSet(0,0,1,1)", "insertCalc(0,0,0,1,2,2)", "setGoto(0,0)",
+                "setBranch(0,1,0,0)", "removeDead()", "foldConstants()"}) {
+                Calls back = asked(asked(fresh("old").load(last)).accepts(change));
+                Calls.check("[" + last + "] after the undone " + change, back.due("undo()", 0).answers(), want);
+            }
+        }
+    }
+
+    /** The analyses of a program that was changed are those of the same program loaded. */
+    private static void changesLeaveNothingBehind() {
+        for (String first : PROGRAMS) {
+            for (String change : new String[] {"insertSet(0,0,1,1)", "insertCalc(0,0,0,1,2,2)", "setGoto(0,0)",
+                "setBranch(0,1,0,0)", "removeDead()", "foldConstants()", "removeInstruction(0)"}) {
+                Calls changed = asked(fresh("old").load(first));
+                changed.answer(change);
+                StringBuilder text = new StringBuilder();
+                for (int b = 0; b < changed.lab.blockCount(); b++) {
+                    text.append("block;").append(changed.written(b));
+                }
+                Calls.check("[" + first + "] after " + change, changed.answers(), fresh("new").load(text.toString()).answers());
+            }
+        }
+    }
+
     private static void dueAll(Calls calls, List<String> asked, Object[] wanted) {
         for (int i = 0; i < wanted.length; i++) {
             calls.due(asked.get(i), wanted[i]);
@@ -605,6 +656,8 @@ public final class PromiseTests {
         promise59();
         promise60();
         analysesFollowChanges();
+        programsLeaveNothingBehind();
+        changesLeaveNothingBehind();
         Calls.finish("PromiseTests");
     }
 }
