@@ -93,6 +93,10 @@ public final class BoundaryTests {
             .due("loadProgram()", 1).text("block;s").due("truncateText(6)", 6)
             .due("appendText(" + ('s' << 24 | 't' << 16 | 'o' << 8 | 'p') + ")", 10)
             .due("appendText(" + (';' << 24 | ' ' << 16 | ' ' << 8 | ' ') + ")", 14).due("loadProgram()", 1);
+        // What is cut off belongs to no token any more.
+        says(3, "Shortens the text buffer to its first bytes").text("blocks").due("truncateText(5)", 5).due("loadProgram()", -1)
+            .due("errorCode()", 1).due("errorPosition()", 5).text("block;goto 12;").due("truncateText(12)", 12)
+            .due("loadProgram()", -1).due("errorCode()", 1).due("errorPosition()", 12);
         says(3, "length: the new length, 0 to the present length").due("truncateText(0)", 0).text("abcde")
             .due("truncateText(5)", 5).due("truncateText(4)", 4).due("truncateText(0)", 0).text(" ".repeat(700))
             .due("truncateText(700)", 700).due("truncateText(0)", 0);
